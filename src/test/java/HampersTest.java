@@ -128,6 +128,7 @@ public final class HampersTest {
             club.choose(member, 2);
         }
         Check.due("9: in the midst of the row", club.giveUp(2), 2);
+        Check.due("9: it stands in no row", club.member(2, 4), 0);
         Check.due("9: ahead of it nothing moves", club.member(1, 4), 1);
         Check.due("9: behind it all move up", club.member(3, 4), 2);
         Check.due("9: the last, too", club.member(4, 4), 3);

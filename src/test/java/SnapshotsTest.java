@@ -6,6 +6,7 @@ public final class SnapshotsTest {
         undo();
         undoAndSlots();
         everythingComesBack();
+        datesComeBack();
         Check.end();
     }
 
@@ -117,6 +118,31 @@ public final class SnapshotsTest {
         club.undo();
         Check.due("14: undo the first take(0)", club.undo(), 1);
         Check.due("14: no snapshots", club.count(13), 0);
+    }
+
+    /** The weeks that no call tells: of joining, of mislaying. */
+    private static void datesComeBack() {
+        HamperClub club = Check.clubOf(1);
+        club.mislay(0);
+        Check.weeks(club, 2);
+        club.find(0);
+        club.mislay(0);
+        club.undo();
+        club.undo();
+        Check.due("14: the week of mislaying", club.find(0), 2);
+        HamperClub late = new HamperClub();
+        late.take(0);
+        Check.weeks(late, 3);
+        late.join();
+        late.choose(0, 0);
+        late.take(1);
+        late.restore(0);
+        late.join();
+        late.undo();
+        late.restore(1);
+        Check.weeks(late, 4);
+        Check.due("13: the week of joining", late.member(0, 2), 0);
+        Check.due("13: lapses by it", late.week(), 1);
     }
 
     /** Each action changes something else; undo and restore bring all of it back. */

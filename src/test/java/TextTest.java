@@ -6,6 +6,7 @@ public final class TextTest {
         faults();
         carryOut();
         carryOutErrors();
+        oneAction();
         Check.end();
     }
 
@@ -108,6 +109,17 @@ public final class TextTest {
         Check.due("17: up to week 60", Check.carryOut(club, weeks.toString()), 10);
         Check.due("17: week 60", club.count(0), 60);
         Check.due("17: a number of three digits", Check.carryOut(club, "0-999;0+1"), 0);
+    }
+
+    private static void oneAction() {
+        HamperClub club = Check.clubOf(12);
+        Check.save(club, 11, 3);
+        Check.due("17: numbers of two digits", Check.carryOut(club, "11-12;11+3;w"), 3);
+        Check.due("17: 15 - 12 + 3", club.member(11, 0), 6);
+        club.undo();
+        Check.due("17: as it was ahead of the text", club.member(11, 0), 15);
+        Check.due("17: the week, too", club.count(0), 3);
+        Check.due("17: the members, too", club.count(1), 12);
     }
 
     private static void carryOutErrors() {

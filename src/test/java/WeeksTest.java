@@ -3,12 +3,14 @@ public final class WeeksTest {
     public static void main(String[] args) {
         week();
         replacement();
+        replacementOfTen();
         lapses();
         lapsingOneByOne();
         settleShares();
         settleHampers();
         settleAlongTheRow();
         settleEdges();
+        settleUndone();
         Check.end();
     }
 
@@ -56,6 +58,17 @@ public final class WeeksTest {
         Check.weeks(club, 2);
         Check.due("10: replaced again", club.member(0, 0), 21);
         Check.due("10: the pool grows", club.count(4), 40);
+    }
+
+    private static void replacementOfTen() {
+        HamperClub club = Check.clubOf(12);
+        Check.save(club, 11, 2);
+        club.mislay(11);
+        Check.weeks(club, 3);
+        Check.due("10: a tenth of 10", club.member(11, 0), 9);
+        Check.due("10: of the pool", club.count(4), 10);
+        club.choose(11, 0);
+        Check.due("10: the last of 12 members lapses, too", club.week(), 1);
     }
 
     private static void lapses() {
@@ -177,6 +190,7 @@ public final class WeeksTest {
         Check.due("11: the row is left", club.hamper(3, 3), 0);
         Check.due("11: nobody waits", club.waiting(3, 0), Check.NONE);
         Check.due("11: its place", club.member(4, 4), 0);
+        Check.due("11: its choice", club.member(4, 2), Check.NONE);
         Check.due("11: the stock", club.hamper(3, 1), 0);
     }
 
@@ -200,5 +214,36 @@ public final class WeeksTest {
         Check.due("11: one gets one", club.settle(), 1);
         Check.due("11: the bonus alone is paid out", club.member(0, 9), 20);
         Check.due("11: 15 stamps less the charge, and 5", club.member(1, 9), 130 + 50);
+        HamperClub single = Check.clubOf(2);
+        single.stick(0, 1);
+        single.stick(1, 5);
+        single.withdraw(1, 5);
+        single.settle();
+        Check.due("11: a single stamp shares", single.member(0, 9), 20);
+        HamperClub full = Check.clubOf(12);
+        Check.save(full, 11, 4);
+        full.choose(11, 0);
+        Check.due("11: the last of 12 members", full.settle(), 1);
+        Check.due("11: its hamper", full.member(11, 10), 0);
+        HamperClub longRow = Check.clubOf(12);
+        Check.save(longRow, 0, 2);
+        longRow.setHamper(3, 10, 1);
+        for (int member = 11; member >= 0; member--) {
+            longRow.choose(member, 3);
+        }
+        Check.due("11: through a row of 11", longRow.settle(), 1);
+        Check.due("11: to its last", longRow.member(0, 10), 3);
+    }
+
+    private static void settleUndone() {
+        HamperClub club = Check.clubOf(1);
+        Check.save(club, 0, 4);
+        club.choose(0, 0);
+        Check.due("11: one", club.settle(), 1);
+        Check.due("11: to the shop", club.count(8), 200);
+        club.undo();
+        Check.due("11: nothing went to the shop", club.count(8), 0);
+        Check.due("11: no hamper was got", club.count(9), 0);
+        Check.due("11: settled again", club.settle(), 1);
     }
 }
