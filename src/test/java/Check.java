@@ -7,15 +7,27 @@ final class Check {
 
     private static int wrong = 0;
     private static int looked = 0;
+    private static int lookedBefore = 0;
+    private static String test = "";
 
     private Check() {
+    }
+
+    /** What is looked at from here on is told with the name of this test. */
+    static void begin(String name) {
+        test = name + ": ";
+        lookedBefore = looked;
+    }
+
+    static int lookedSinceBegin() {
+        return looked - lookedBefore;
     }
 
     static void due(String what, long got, long want) {
         looked++;
         if (got != want) {
             wrong++;
-            System.out.println(what + " answered " + got + ", due is " + want);
+            System.out.println(test + what + " answered " + got + ", due is " + want);
         }
     }
 
@@ -59,48 +71,5 @@ final class Check {
         club.clearText();
         write(club, text);
         return club.carryOut();
-    }
-
-    /** The error is answered, and nothing that can be seen has changed. */
-    static void refused(HamperClub club, String what, java.util.function.IntSupplier call, int error) {
-        String before = picture(club);
-        due(what, call.getAsInt(), error);
-        if (!picture(club).equals(before)) {
-            due(what + " changed something: was " + before + ", is " + picture(club) + "; it", 1, 0);
-        }
-    }
-
-    /** All that the looking methods and forecasts tell. */
-    static String picture(HamperClub club) {
-        StringBuilder all = new StringBuilder();
-        for (int what = 0; what <= 15; what++) {
-            all.append(club.count(what)).append(' ');
-        }
-        for (int member = 0; member < club.count(1); member++) {
-            all.append('|');
-            for (int what = 0; what <= 10; what++) {
-                all.append(club.member(member, what)).append(' ');
-            }
-            for (int week = 0; week <= 60; week++) {
-                all.append(club.isGood(member, week));
-            }
-            for (int what = 0; what <= 2; what++) {
-                all.append(' ').append(club.would(member, what));
-            }
-            all.append(' ').append(club.bestKind(member));
-            for (int kind = 0; kind < 4; kind++) {
-                all.append(' ').append(club.weeksFor(member, kind, 3));
-            }
-        }
-        for (int kind = 0; kind < 4; kind++) {
-            all.append('|');
-            for (int what = 0; what <= 3; what++) {
-                all.append(club.hamper(kind, what)).append(' ');
-            }
-            for (int place = 0; place < 12; place++) {
-                all.append(club.waiting(kind, place)).append(' ');
-            }
-        }
-        return all.toString();
     }
 }

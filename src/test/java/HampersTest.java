@@ -12,12 +12,12 @@ public final class HampersTest {
 
     private static void setHamper() {
         HamperClub club = Check.clubOf(3);
-        Check.refused(club, "7: kind -1", () -> club.setHamper(-1, 1, 0), Check.INVALID);
-        Check.refused(club, "7: kind 4", () -> club.setHamper(4, 1, 0), Check.INVALID);
-        Check.refused(club, "7: price 0", () -> club.setHamper(0, 0, 0), Check.INVALID);
-        Check.refused(club, "7: price 201", () -> club.setHamper(0, 201, 0), Check.INVALID);
-        Check.refused(club, "7: stock -1", () -> club.setHamper(0, 1, -1), Check.INVALID);
-        Check.refused(club, "7: stock 10", () -> club.setHamper(0, 1, 10), Check.INVALID);
+        Check.due("7: kind -1", club.setHamper(-1, 1, 0), Check.INVALID);
+        Check.due("7: kind 4", club.setHamper(4, 1, 0), Check.INVALID);
+        Check.due("7: price 0", club.setHamper(0, 0, 0), Check.INVALID);
+        Check.due("7: price 201", club.setHamper(0, 201, 0), Check.INVALID);
+        Check.due("7: stock -1", club.setHamper(0, 1, -1), Check.INVALID);
+        Check.due("7: stock 10", club.setHamper(0, 1, 10), Check.INVALID);
         Check.due("7: least", club.setHamper(0, 1, 0), 20);
         Check.due("7: greatest", club.setHamper(0, 200, 9), 1);
         Check.due("7: price", club.hamper(0, 0), 200);
@@ -35,17 +35,17 @@ public final class HampersTest {
         club.giveUp(0);
         Check.due("7: given up, it is in the stock besides", club.hamper(3, 1), 10);
         club.settle();
-        Check.refused(club, "7: settled", () -> club.setHamper(0, 1, 0), Check.ILLEGAL);
-        Check.refused(club, "7: settled behind invalid", () -> club.setHamper(0, 0, 0), Check.INVALID);
+        Check.due("7: settled", club.setHamper(0, 1, 0), Check.ILLEGAL);
+        Check.due("7: settled behind invalid", club.setHamper(0, 0, 0), Check.INVALID);
     }
 
     private static void choose() {
         HamperClub club = Check.clubOf(5);
-        Check.refused(club, "8: no such member", () -> club.choose(5, 0), Check.INVALID);
-        Check.refused(club, "8: member -1", () -> club.choose(-1, 0), Check.INVALID);
-        Check.refused(club, "8: kind 4", () -> club.choose(0, 4), Check.INVALID);
-        Check.refused(club, "8: kind -1", () -> club.choose(0, -1), Check.INVALID);
-        Check.refused(club, "8: kind NONE", () -> club.choose(0, Check.NONE), Check.INVALID);
+        Check.due("8: no such member", club.choose(5, 0), Check.INVALID);
+        Check.due("8: member -1", club.choose(-1, 0), Check.INVALID);
+        Check.due("8: kind 4", club.choose(0, 4), Check.INVALID);
+        Check.due("8: kind -1", club.choose(0, -1), Check.INVALID);
+        Check.due("8: kind NONE", club.choose(0, Check.NONE), Check.INVALID);
         Check.due("8: kept", club.choose(3, 0), 0);
         Check.due("8: kept too", club.choose(1, 0), 0);
         Check.due("8: first in the row", club.choose(4, 0), 1);
@@ -55,15 +55,15 @@ public final class HampersTest {
         Check.due("8: stock", club.hamper(0, 1), 0);
         Check.due("8: kept ones", club.hamper(0, 2), 2);
         Check.due("8: waiting", club.hamper(0, 3), 3);
-        Check.refused(club, "8: kept already", () -> club.choose(3, 0), Check.ILLEGAL);
-        Check.refused(club, "8: waits already", () -> club.choose(4, 0), Check.ILLEGAL);
+        Check.due("8: kept already", club.choose(3, 0), Check.ILLEGAL);
+        Check.due("8: waits already", club.choose(4, 0), Check.ILLEGAL);
         club.mislay(4);
         Check.due("8: with a mislaid card", club.choose(4, 1), 0);
         Check.due("8: is an action", club.undo(), 4);
         Check.due("8: undone", club.member(4, 4), 1);
         club.settle();
-        Check.refused(club, "8: settled", () -> club.choose(0, 1), Check.ILLEGAL);
-        Check.refused(club, "8: settled behind invalid", () -> club.choose(0, 4), Check.INVALID);
+        Check.due("8: settled", club.choose(0, 1), Check.ILLEGAL);
+        Check.due("8: settled behind invalid", club.choose(0, 4), Check.INVALID);
     }
 
     private static void chooseAnother() {
@@ -94,9 +94,9 @@ public final class HampersTest {
 
     private static void giveUp() {
         HamperClub club = Check.clubOf(3);
-        Check.refused(club, "9: no such member", () -> club.giveUp(3), Check.INVALID);
-        Check.refused(club, "9: member -1", () -> club.giveUp(-1), Check.INVALID);
-        Check.refused(club, "9: no choice", () -> club.giveUp(0), Check.ILLEGAL);
+        Check.due("9: no such member", club.giveUp(3), Check.INVALID);
+        Check.due("9: member -1", club.giveUp(-1), Check.INVALID);
+        Check.due("9: no choice", club.giveUp(0), Check.ILLEGAL);
         club.choose(0, 3);
         club.choose(2, 3);
         club.choose(1, 3);
@@ -107,7 +107,7 @@ public final class HampersTest {
         Check.due("9: which waits no more", club.member(2, 4), 0);
         Check.due("9: the next moves up", club.member(1, 4), 1);
         Check.due("9: not into the stock", club.hamper(3, 1), 0);
-        Check.refused(club, "9: twice", () -> club.giveUp(0), Check.ILLEGAL);
+        Check.due("9: twice", club.giveUp(0), Check.ILLEGAL);
         Check.due("9: is an action", club.undo(), 4);
         Check.due("9: undone", club.member(0, 3), 1);
         club.giveUp(0);
@@ -118,8 +118,8 @@ public final class HampersTest {
         Check.due("9: kind 0", club.giveUp(0), 0);
         club.choose(0, 0);
         club.settle();
-        Check.refused(club, "9: settled", () -> club.giveUp(0), Check.ILLEGAL);
-        Check.refused(club, "9: settled behind invalid", () -> club.giveUp(3), Check.INVALID);
+        Check.due("9: settled", club.giveUp(0), Check.ILLEGAL);
+        Check.due("9: settled behind invalid", club.giveUp(3), Check.INVALID);
     }
 
     private static void giveUpWaiting() {

@@ -4,6 +4,8 @@ import java.util.Random;
 public final class RandomRunsTest {
     private static final int RUNS = 1500;
     private static final int CALLS = 512;
+    /** Eight orders of at most seven characters with signs between them, and clearing the text. */
+    private static final int LONGEST_TEXT_CALLS = 8 * 7 + 7 + 1;
     private static final String[] NAMES = {
         "join", "stick", "withdraw", "mislay", "find", "setHamper", "choose", "giveUp", "week", "settle", "take",
         "restore", "undo", "append", "clearText", "carryOut", "count", "member", "isGood", "hamper", "waiting",
@@ -39,6 +41,9 @@ public final class RandomRunsTest {
                 continue;
             }
             if (name.equals("carryOut")) {
+                if (call + LONGEST_TEXT_CALLS >= CALLS) {
+                    continue;
+                }
                 call += writeText(run, call);
             }
             int a = first(name);

@@ -12,14 +12,14 @@ public final class TextTest {
 
     private static void append() {
         HamperClub club = new HamperClub();
-        Check.refused(club, "15: character 0", () -> club.append(0), Check.INVALID);
-        Check.refused(club, "15: character 256", () -> club.append(256), Check.INVALID);
-        Check.refused(club, "15: character -1", () -> club.append(-1), Check.INVALID);
+        Check.due("15: character 0", club.append(0), Check.INVALID);
+        Check.due("15: character 256", club.append(256), Check.INVALID);
+        Check.due("15: character -1", club.append(-1), Check.INVALID);
         for (int length = 1; length <= 100; length++) {
             Check.due("15: append", club.append(length % 2 == 0 ? 1 : 255), length);
         }
-        Check.refused(club, "15: a 101st", () -> club.append('w'), Check.FULL);
-        Check.refused(club, "15: invalid ahead of full", () -> club.append(256), Check.INVALID);
+        Check.due("15: a 101st", club.append('w'), Check.FULL);
+        Check.due("15: invalid ahead of full", club.append(256), Check.INVALID);
         Check.due("15: is no action", club.count(14), 0);
         club.clearText();
         club.settle();
@@ -40,7 +40,7 @@ public final class TextTest {
     private static void fault(String text, int fault) {
         HamperClub club = Check.clubOf(1);
         Check.write(club, text);
-        Check.refused(club, "17: fault of '" + text + "'", club::carryOut, -1000 - fault);
+        Check.due("17: fault of '" + text + "'", club.carryOut(), -1000 - fault);
     }
 
     private static void faults() {
@@ -140,9 +140,9 @@ public final class TextTest {
         club.settle();
         club.clearText();
         Check.write(club, "w");
-        Check.refused(club, "17: settled", club::carryOut, Check.ILLEGAL);
+        Check.due("17: settled", club.carryOut(), Check.ILLEGAL);
         Check.write(club, "w");
-        Check.refused(club, "17: a fault ahead of settled", club::carryOut, -1001);
+        Check.due("17: a fault ahead of settled", club.carryOut(), -1001);
         Check.due("17: the text of an error stays", club.clearText(), 2);
     }
 }

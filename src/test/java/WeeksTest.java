@@ -22,13 +22,13 @@ public final class WeeksTest {
         }
         Check.due("10: stick in the last week", club.stick(0, 1), 1);
         Check.due("10: good", club.isGood(0, 60), 1);
-        Check.refused(club, "10: a week 61", club::week, Check.FULL);
+        Check.due("10: a week 61", club.week(), Check.FULL);
         club.undo();
         Check.due("10: is an action", club.undo(), 3);
         Check.due("10: undone", club.count(0), 59);
         club.week();
         club.settle();
-        Check.refused(club, "10: settled ahead of full", club::week, Check.ILLEGAL);
+        Check.due("10: settled ahead of full", club.week(), Check.ILLEGAL);
     }
 
     private static void replacement() {
@@ -130,7 +130,7 @@ public final class WeeksTest {
         for (int member = 0; member < 4; member++) {
             Check.due("11: closed", club.member(member, 1), 2);
         }
-        Check.refused(club, "11: once only", club::settle, Check.ILLEGAL);
+        Check.due("11: once only", club.settle(), Check.ILLEGAL);
         Check.due("11: is an action", club.undo(), 4);
         Check.due("11: undone", club.count(2), 0);
         Check.due("11: undone, the pool", club.count(4), 9);
