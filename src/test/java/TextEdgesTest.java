@@ -318,8 +318,8 @@ public final class TextEdgesTest extends Edges {
 
     /** Each of these orders is refused, so that none is carried out. */
     static void promise17RefusedOrdersAreNoFaults() {
-        String[] orders = {"0+0", "0+6", "0+999", "0-0", "0-999", "0h4", "0h999", "6x", "12+1", "999+1", "999-1", "999h1",
-            "999x", "999l", "999f", "5x", "3l", "0f", "1h3", "3+1", "0+1"};
+        String[] orders = {"0+0", "0+6", "0+999", "0-0", "0-999", "0h4", "0h999", "6x", "12+1", "999+1", "999-1",
+            "999h1", "999x", "999l", "999f", "5x", "3l", "0f", "1h3", "3+1", "0+1"};
         for (String order : orders) {
             HamperClub club = busy();
             club.clearText();
